@@ -249,7 +249,7 @@ public final class NoteGate {
         int stopping = 0;
         boolean full = false;
         for (int check = 0; check < Setting.CHECKS && !full; check++) {
-            if (!isAmong(asSet, check)) {
+            if ((asSet >> check & 1) == 0) {
                 setting.checksOn = asSet | 1 << check;
                 int moves = judging.search(n);
                 stopping |= moves == NONE ? 1 << check : 0;
@@ -439,11 +439,6 @@ public final class NoteGate {
         return v >= least && v <= most;
     }
 
-    /** The set's bit of that number; sets have bits 0 .. 31. */
-    private static boolean isAmong(int set, int bit) {
-        return bit >= 0 && bit < 32 && (set >> bit & 1) == 1;
-    }
-
     private static boolean isBrowser(int b) {
         return b >= 0 && b < BROWSERS;
     }
@@ -452,7 +447,7 @@ public final class NoteGate {
         return right >= 0 && right < RIGHTS;
     }
 
-    /** A slot that is told is also there: the second test is for the row of slots itself. */
+    /** The last test always holds; it stands here so that no slot is used unlooked at. */
     private boolean isSlot(int slot) {
         return slot >= 0 && slot < SLOTS && slots[slot] != null;
     }
@@ -1138,11 +1133,15 @@ public final class NoteGate {
             mark = other.mark;
         }
 
-        /** A number that alike states share; what stands behind the last letter or note is left out of it. */
+        /** A number that alike states share; of notes it takes only what can change, as there are many of them. */
         void setMark() {
             int h = mixed(1, 0, FAMILY_AT + w[FAMILY_COUNT] * FAMILY_WORDS);
             h = mixed(h, LETTER_AT, LETTER_AT + w[LETTER_COUNT] * LETTER_WORDS);
-            mark = mixed(h, NOTE_AT, NOTE_AT + w[NOTE_COUNT] * NOTE_WORDS);
+            for (int x = 0; x < w[NOTE_COUNT] && x < MOST_NOTES; x++) {
+                int at = NOTE_AT + x * NOTE_WORDS;
+                h = h * 31 + (w[at + HAVE] << 1 | w[at + TURNED]);
+            }
+            mark = h ^ h >>> 15;
         }
 
         private int mixed(int start, int from, int to) {
@@ -1150,7 +1149,7 @@ public final class NoteGate {
             for (int i = from; i < to && i < WORDS; i++) {
                 h = h * 31 + w[i];
             }
-            return h ^ h >>> 15;
+            return h;
         }
 
         /** The counts stand within the first part, so that the other parts are of one length if it is alike. */

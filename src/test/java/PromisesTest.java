@@ -61,6 +61,7 @@ public final class PromisesTest {
         promise34Write();
         promise35Paste();
         promise36Script();
+        promise36NumbersInTheirPlaces();
         promise37Why();
         System.out.println(wrong == 0 ? calls + " answers are as due" : wrong + " answers are not as due");
         if (wrong != 0) {
@@ -391,9 +392,7 @@ public final class PromisesTest {
         due("now", g.family(0, 1), 4);
         due("to the houses of its notes", g.count(4), 2);
         int[] first = {9, 5, 5, 0, NONE, 0, 4};
-        for (int what = 0; what < first.length; what++) {
-            due("letter(0, " + what + ")", g.letter(0, what), first[what]);
-        }
+        told(g, 0, first);
         due("the second, by numbers", g.letter(1, 1), 7);
         no("it is", g.end(0));
         due("nothing more", g.count(4), 2);
@@ -416,9 +415,7 @@ public final class PromisesTest {
         due("the latest", g.browser(4, 1), 3);
         due("its own", g.browser(3, 1), 2);
         int[] letter = {4, 9, 0, 1, 255, 1, 0};
-        for (int what = 0; what < letter.length; what++) {
-            due("letter(0, " + what + ")", g.letter(0, what), letter[what]);
-        }
+        told(g, 0, letter);
         g.throwOut(1);
         g.keeper(false);
         due("out and down", g.ask(0, 1, 1), 4);
@@ -446,9 +443,7 @@ public final class PromisesTest {
         due("pair", g.turn(0, x + 1), 2);
         due("the browser's", g.browser(0, 1), 2);
         int[] letter = {0, 9, 3, 1, NONE, 2, 1};
-        for (int what = 0; what < letter.length; what++) {
-            due("letter(0, " + what + ")", g.letter(0, what), letter[what]);
-        }
+        told(g, 0, letter);
         due("turned only as it comes", g.note(1, 9), 0);
     }
 
@@ -464,9 +459,7 @@ public final class PromisesTest {
         due("nothing posted", g.count(4), 0);
         yes("show", g.show(0, 1, x, 7));
         int[] letter = {0, 6, 2, x, 7, 0, 0};
-        for (int what = 0; what < letter.length; what++) {
-            due("letter(0, " + what + ")", g.letter(0, what), letter[what]);
-        }
+        told(g, 0, letter);
         yes("a refresh too", g.show(0, 0, x + 1, 0));
         due("let in", shown(g, 0, 0, x, 1), 0);
         yes("a house that has it", g.show(5, 1, x, 0));
@@ -490,9 +483,7 @@ public final class PromisesTest {
         g.throwOut(1);
         yes("hand", g.hand(0, x, 1, 255));
         int[] letter = {5, 9, 4, x, 1, 255, 0};
-        for (int what = 0; what < letter.length; what++) {
-            due("letter(0, " + what + ")", g.letter(0, what), letter[what]);
-        }
+        told(g, 0, letter);
     }
 
     private static void promise15Fake() {
@@ -509,9 +500,7 @@ public final class PromisesTest {
         due("nothing posted", g.count(4), 0);
         yes("fake", g.fake(3, x + 1));
         int[] letter = {4, 3, 1, x + 1, NONE, 0, 0};
-        for (int what = 0; what < letter.length; what++) {
-            due("letter(0, " + what + ")", g.letter(0, what), letter[what]);
-        }
+        told(g, 0, letter);
         g.tap(4);
         due("pair", g.ask(2, 0, 1), 3);
         yes("with the pair that he knows", g.fake(2, x));
@@ -543,9 +532,7 @@ public final class PromisesTest {
         due("family", g.family(0, 0), 3);
         due("family", g.family(0, 1), NONE);
         int[] letter = {9, 3, 1, 0, 1, 2, 4};
-        for (int what = 0; what < letter.length; what++) {
-            due("letter(0, " + what + ")", g.letter(0, what), letter[what]);
-        }
+        told(g, 0, letter);
         g.leave(3);
         g.ask(3, 0, 6);
         due("proved no more", g.deliver(2), 0);
@@ -612,9 +599,7 @@ public final class PromisesTest {
             due("note(2, " + what + ")", g.note(2, what), handed[what]);
         }
         int[] letter = {9, 5, 1, 2, NONE, 0, 5};
-        for (int what = 0; what < letter.length; what++) {
-            due("letter(0, " + what + ")", g.letter(0, what), letter[what]);
-        }
+        told(g, 0, letter);
         due("to a house: taken", g.deliver(0), 1);
         due("the house has it", g.note(2, 10), 32);
         g.hand(0, x, 2, 8);
@@ -840,9 +825,7 @@ public final class PromisesTest {
         g.tap(1);
         yes("copy", g.copy(0));
         int[] letter = {0, 9, 0, 0, 1, 1, 2};
-        for (int what = 0; what < letter.length; what++) {
-            due("letter(2, " + what + ")", g.letter(2, what), letter[what]);
-        }
+        told(g, 2, letter);
         due("the first as it was", g.letter(0, 6), 0);
         due("the thief reads it", g.browser(0, 2), 1);
         no("none such", g.copy(3));
@@ -1264,9 +1247,7 @@ public final class PromisesTest {
         g.tick(3);
         g.ask(1, 1, 9);
         int[] letter = {1, 9, 0, 1, 9, 1, 3};
-        for (int what = 0; what < letter.length; what++) {
-            due("letter(0, " + what + ")", g.letter(0, what), letter[what]);
-        }
+        told(g, 0, letter);
         due("what", g.letter(0, -1), -2);
         due("what", g.letter(0, 7), -2);
         due("none such", g.letter(-1, 0), -2);
@@ -1576,6 +1557,48 @@ public final class PromisesTest {
         fill(g, 1, 1, 6, 0, 6, 4, 6, 5, 6, 1);
         due("up to the first that is refused", g.script(1), 2);
         due("slot stays", g.script(1), 2);
+    }
+
+    private static void promise36NumbersInTheirPlaces() {
+        promise = 36;
+        NoteGate g = gate(4);
+        get(g, 0, 0, 1);
+        get(g, 0, 0, 1);
+        fill(g, 2, 1, 0, 3, 2, 7, 4, 0, 4, 0, 2, 3, 2, 4, 1);
+        due("ask, deliver, deliver, show", g.script(2), 4);
+        int[][] letters = {{3, 7, 2, 4, 1, 0}, {7, 9, 4, 4, 1, 6}, {3, 9, 3, 5, NONE, 4}, {4, 2, 1, 6, NONE, 0}};
+        told(g, 0, letters[0]);
+        due("person", g.note(4, 1), 3);
+        due("house", g.note(4, 2), 2);
+        due("rights", g.note(4, 3), 7);
+        g.deliver(0);
+        fill(g, 2, 2, 3, 2, 4, 1, 6);
+        due("hand", g.script(2), 1);
+        told(g, 0, letters[1]);
+        g.lose(0);
+        fill(g, 2, 2, 1, 3, 5);
+        due("turn", g.script(2), 1);
+        told(g, 0, letters[2]);
+        g.lose(0);
+        get(g, 4, 0, 1);
+        fill(g, 2, 2, 7, 2, 6);
+        due("fake", g.script(2), 1);
+        told(g, 0, letters[3]);
+        g.tick(3);
+        fill(g, 2, 2, 6, 2);
+        due("prove", g.script(2), 1);
+        due("prove", g.browser(2, 0), 3);
+        g.ask(0, 0, 1);
+        fill(g, 2, 2, 4, 1);
+        due("deliver", g.script(2), 1);
+        due("deliver", g.letter(0, 2), 1);
+        due("deliver", g.letter(1, 1), 0);
+    }
+
+    private static void told(NoteGate g, int letter, int[] want) {
+        for (int what = 0; what < want.length; what++) {
+            due("letter(" + letter + ", " + what + ")", g.letter(letter, what), want[what]);
+        }
     }
 
     private static void promise37Why() {
