@@ -1349,7 +1349,7 @@ public final class NoteGate {
 
         private int tryGives(int s, World at) {
             int came = GOES_ON;
-            for (int to = 0; to < THIEF; to++) {
+            for (int to = 0; to < THIEF && came == GOES_ON; to++) {
                 int pair = at.knownPair(to);
                 if (!at.takes(to, pair)) {
                     continue;

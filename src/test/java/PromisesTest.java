@@ -1137,6 +1137,16 @@ public final class PromisesTest {
         due("stops tells no row", g.found(0), 100);
         g.judge(0, 0, 1, 0, 1);
         due("it told none", g.found(0), NONE);
+        g = gate(0);
+        g.house(-7, false, 0);
+        g.tap(1);
+        get(g, 0, 0, 1);
+        g.keeper(false);
+        due("the longest row", g.judge(0, 0, 0, 0, 6), 6);
+        due("its first", g.found(0), 600);
+        due("its fifth", g.found(4), 600);
+        due("its last", g.found(5), 100);
+        due("no more", g.found(6), NONE);
     }
 
     private static void promise22Stops() {
