@@ -1,13 +1,5 @@
 /** For each promise of the document: ordinary inputs, the edges that it names, wrong inputs. */
-public final class PromisesTest {
-    private static final int MIN = Integer.MIN_VALUE;
-    private static final int MAX = Integer.MAX_VALUE;
-    private static final int NONE = NoteGate.NONE;
-
-    private static int promise;
-    private static int calls;
-    private static int wrong;
-
+public final class PromisesTest extends Answers {
     public static void main(String[] args) {
         promise1NewObject();
         promise2Terms();
@@ -63,56 +55,11 @@ public final class PromisesTest {
         promise36Script();
         promise36NumbersInTheirPlaces();
         promise37Why();
-        System.out.println(wrong == 0 ? calls + " answers are as due" : wrong + " answers are not as due");
-        if (wrong != 0) {
-            System.exit(1);
-        }
-    }
-
-    private static void due(String what, long got, long want) {
-        calls++;
-        if (got != want) {
-            wrong++;
-            System.out.println("promise " + promise + ": " + what + " answered " + got + ", due is " + want);
-        }
-    }
-
-    private static void yes(String what, boolean got) {
-        due(what, got ? 1 : 0, 1);
-    }
-
-    private static void no(String what, boolean got) {
-        due(what, got ? 1 : 0, 0);
-    }
-
-    /** Houses with right clocks, not once, nothing dear; all people proved. */
-    private static NoteGate gate(int houses) {
-        NoteGate g = new NoteGate();
-        for (int i = 0; i < houses; i++) {
-            g.house(0, false, 0);
-        }
-        for (int b = 0; b < 5; b++) {
-            g.prove(b);
-        }
-        return g;
-    }
-
-    /** A browser asks and gets its note and its refresh: the note's number. The post must be empty. */
-    private static int get(NoteGate g, int browser, int house, int rights) {
-        g.ask(browser, house, rights);
-        g.deliver(0);
-        g.deliver(0);
-        return g.count(2) - 2;
-    }
-
-    /** A show that comes at once: its verdict. */
-    private static int shown(NoteGate g, int holder, int house, int note, int right) {
-        g.show(holder, house, note, right);
-        return g.deliver(g.count(4) - 1);
+        end();
     }
 
     private static void promise1NewObject() {
-        promise = 1;
+        about("promise 1");
         NoteGate g = new NoteGate();
         int[] counts = {0, 0, 0, 0, 0, 0, 0, 255, 1, 0, 0, 0, 0};
         for (int what = 0; what < counts.length; what++) {
@@ -138,7 +85,7 @@ public final class PromisesTest {
     }
 
     private static void promise2Terms() {
-        promise = 2;
+        about("promise 2");
         int[] least = {1, 1, 0, 1, 0, 1, 0};
         int[] most = {1000, 10000, 20, 100, 1000, 100, 1000};
         NoteGate g = new NoteGate();
@@ -159,7 +106,7 @@ public final class PromisesTest {
     }
 
     private static void promise2TermsCount() {
-        promise = 2;
+        about("promise 2");
         NoteGate g = gate(1);
         yes("terms", g.terms(7, 30, 1, 4, 0, 3, 2));
         no("wrong terms", g.terms(8, 31, 2, 5, 1, 4, 1001));
@@ -178,7 +125,7 @@ public final class PromisesTest {
     }
 
     private static void promise3Checks() {
-        promise = 3;
+        about("promise 3");
         NoteGate g = gate(2);
         due("wrong", g.checks(-1), -2);
         due("wrong", g.checks(256), -2);
@@ -195,7 +142,7 @@ public final class PromisesTest {
     }
 
     private static void promise4House() {
-        promise = 4;
+        about("promise 4");
         NoteGate g = new NoteGate();
         due("off", g.house(-21, false, 0), -2);
         due("off", g.house(21, false, 0), -2);
@@ -220,7 +167,7 @@ public final class PromisesTest {
     }
 
     private static void promise5ThrowOut() {
-        promise = 5;
+        about("promise 5");
         NoteGate g = gate(2);
         no("none such", g.throwOut(-1));
         no("none such", g.throwOut(2));
@@ -246,7 +193,7 @@ public final class PromisesTest {
     }
 
     private static void promise6Keeper() {
-        promise = 6;
+        about("promise 6");
         NoteGate g = gate(2);
         int x = get(g, 0, 0, 1);
         shown(g, 0, 0, x, 0);
@@ -270,7 +217,7 @@ public final class PromisesTest {
     }
 
     private static void promise7Tap() {
-        promise = 7;
+        about("promise 7");
         NoteGate g = new NoteGate();
         due("wrong", g.tap(-1), -2);
         due("wrong", g.tap(512), -2);
@@ -282,7 +229,7 @@ public final class PromisesTest {
     }
 
     private static void promise7WhatTheThiefReads() {
-        promise = 7;
+        about("promise 7");
         NoteGate g = gate(2);
         g.ask(1, 0, 1);
         g.tap(2);
@@ -323,7 +270,7 @@ public final class PromisesTest {
     }
 
     private static void promise8Prove() {
-        promise = 8;
+        about("promise 8");
         NoteGate g = new NoteGate();
         no("none such", g.prove(-1));
         no("none such", g.prove(5));
@@ -342,7 +289,7 @@ public final class PromisesTest {
     }
 
     private static void promise9Leave() {
-        promise = 9;
+        about("promise 9");
         NoteGate g = gate(2);
         get(g, 0, 0, 1);
         get(g, 1, 0, 1);
@@ -374,7 +321,7 @@ public final class PromisesTest {
     }
 
     private static void promise10End() {
-        promise = 10;
+        about("promise 10");
         NoteGate g = gate(3);
         int x = get(g, 0, 2, 1);
         shown(g, 0, 2, x, 0);
@@ -402,7 +349,7 @@ public final class PromisesTest {
     }
 
     private static void promise11Ask() {
-        promise = 11;
+        about("promise 11");
         NoteGate g = gate(2);
         int[][] bad = {{-1, 0, 1}, {5, 0, 1}, {0, -1, 1}, {0, 2, 1}, {0, 0, 0}, {0, 0, 256}, {0, 0, -1}, {MIN, 0, 1}, {0, MAX, 1}};
         for (int[] b : bad) {
@@ -429,7 +376,7 @@ public final class PromisesTest {
     }
 
     private static void promise12Turn() {
-        promise = 12;
+        about("promise 12");
         NoteGate g = gate(1);
         int x = get(g, 0, 0, 1);
         due("none such", g.turn(-1, x + 1), -2);
@@ -448,7 +395,7 @@ public final class PromisesTest {
     }
 
     private static void promise13Show() {
-        promise = 13;
+        about("promise 13");
         NoteGate g = gate(2);
         int x = get(g, 0, 0, 3);
         int[][] bad = {{-1, 0, x, 0}, {9, 0, x, 0}, {1, 0, x, 0}, {5, 0, x, 0}, {8, 0, x, 0}, {32, 0, x, 0}, {0, -1, x, 0},
@@ -469,7 +416,7 @@ public final class PromisesTest {
     }
 
     private static void promise14Hand() {
-        promise = 14;
+        about("promise 14");
         NoteGate g = gate(2);
         int x = get(g, 0, 0, 3);
         no("has it not", g.hand(0, x, 1, 1));
@@ -487,7 +434,7 @@ public final class PromisesTest {
     }
 
     private static void promise15Fake() {
-        promise = 15;
+        about("promise 15");
         NoteGate g = gate(1);
         int x = get(g, 4, 0, 1);
         int y = get(g, 0, 0, 1);
@@ -509,7 +456,7 @@ public final class PromisesTest {
     }
 
     private static void promise16DeliverAsk() {
-        promise = 16;
+        about("promise 16");
         NoteGate g = new NoteGate();
         g.house(0, false, 0);
         g.terms(11, 77, 2, 10, 0, 50, 10);
@@ -540,7 +487,7 @@ public final class PromisesTest {
     }
 
     private static void promise16DeliverTurn() {
-        promise = 16;
+        about("promise 16");
         NoteGate g = gate(1);
         g.terms(5, 12, 2, 10, 0, 50, 10);
         int x = get(g, 0, 0, 9);
@@ -586,7 +533,7 @@ public final class PromisesTest {
     }
 
     private static void promise16DeliverHand() {
-        promise = 16;
+        about("promise 16");
         NoteGate g = gate(3);
         g.terms(20, 200, 2, 10, 0, 50, 10);
         int x = get(g, 2, 0, 6);
@@ -639,7 +586,7 @@ public final class PromisesTest {
     }
 
     private static void promise16DeliverGive() {
-        promise = 16;
+        about("promise 16");
         NoteGate g = gate(1);
         g.ask(0, 0, 1);
         g.deliver(0);
@@ -664,7 +611,7 @@ public final class PromisesTest {
     }
 
     private static void promise16DeliverOver() {
-        promise = 16;
+        about("promise 16");
         NoteGate g = gate(2);
         get(g, 0, 0, 1);
         get(g, 0, 1, 1);
@@ -680,7 +627,7 @@ public final class PromisesTest {
     }
 
     private static void promise16Verdicts() {
-        promise = 16;
+        about("promise 16");
         NoteGate g = gate(0);
         g.house(-4, false, 0);
         g.house(4, true, 2);
@@ -725,7 +672,7 @@ public final class PromisesTest {
     }
 
     private static void promise16FirstVerdictCounts() {
-        promise = 16;
+        about("promise 16");
         NoteGate g = gate(0);
         g.house(0, true, 255);
         g.house(0, false, 0);
@@ -759,7 +706,7 @@ public final class PromisesTest {
     }
 
     private static void promise16NumbersRunOut() {
-        promise = 16;
+        about("promise 16");
         NoteGate g = gate(2);
         g.terms(1000, 10000, 2, 10, 0, 100, 10);
         int x = get(g, 0, 0, 1);
@@ -798,7 +745,7 @@ public final class PromisesTest {
     }
 
     private static void promise16FamiliesRunOut() {
-        promise = 16;
+        about("promise 16");
         NoteGate g = gate(1);
         for (int i = 0; i < 16; i++) {
             g.ask(i % 5, 0, 1);
@@ -815,7 +762,7 @@ public final class PromisesTest {
     }
 
     private static void promise17Copy() {
-        promise = 17;
+        about("promise 17");
         NoteGate g = gate(2);
         no("none such", g.copy(-1));
         no("none such", g.copy(0));
@@ -838,7 +785,7 @@ public final class PromisesTest {
     }
 
     private static void promise18Lose() {
-        promise = 18;
+        about("promise 18");
         NoteGate g = gate(1);
         no("none such", g.lose(-1));
         no("none such", g.lose(0));
@@ -857,7 +804,7 @@ public final class PromisesTest {
     }
 
     private static void promise19Tick() {
-        promise = 19;
+        about("promise 19");
         NoteGate g = gate(2);
         due("wrong", g.tick(0), -2);
         due("wrong", g.tick(-1), -2);
@@ -886,7 +833,7 @@ public final class PromisesTest {
     }
 
     private static void promise19LateLetters() {
-        promise = 19;
+        about("promise 19");
         NoteGate g = gate(1);
         g.terms(20, 200, 2, 10, 0, 3, 10);
         g.ask(0, 0, 1);
@@ -935,7 +882,7 @@ public final class PromisesTest {
     }
 
     private static void promise20JudgeLetIn() {
-        promise = 20;
+        about("promise 20");
         NoteGate g = gate(2);
         g.tap(32);
         int x = get(g, 1, 0, 2);
@@ -994,7 +941,7 @@ public final class PromisesTest {
     }
 
     private static void promise20JudgeStrangeNote() {
-        promise = 20;
+        about("promise 20");
         NoteGate g = gate(1);
         int x = get(g, 4, 0, 1);
         due("no pair", g.judge(1, 2, 0, 0, 3), NONE);
@@ -1028,7 +975,7 @@ public final class PromisesTest {
     }
 
     private static void promise20JudgeWrong() {
-        promise = 20;
+        about("promise 20");
         NoteGate g = gate(1);
         g.tap(1);
         get(g, 0, 0, 1);
@@ -1048,7 +995,7 @@ public final class PromisesTest {
     }
 
     private static void promise20JudgeOrder() {
-        promise = 20;
+        about("promise 20");
         NoteGate g = gate(2);
         g.tap(1);
         int x = get(g, 0, 0, 1);
@@ -1070,7 +1017,7 @@ public final class PromisesTest {
     }
 
     private static void promise20JudgeFull() {
-        promise = 20;
+        about("promise 20");
         NoteGate g = gate(4);
         g.tap(1);
         g.terms(500, 5000, 20, 10, 0, 100, 10);
@@ -1094,7 +1041,7 @@ public final class PromisesTest {
     }
 
     private static void promise20JudgeLeavesAllAsItIs() {
-        promise = 20;
+        about("promise 20");
         NoteGate g = gate(2);
         g.tap(1);
         int x = get(g, 0, 0, 1);
@@ -1121,7 +1068,7 @@ public final class PromisesTest {
     }
 
     private static void promise21Found() {
-        promise = 21;
+        about("promise 21");
         NoteGate g = gate(1);
         due("ahead of any", g.found(0), NONE);
         g.tap(1);
@@ -1150,7 +1097,7 @@ public final class PromisesTest {
     }
 
     private static void promise22Stops() {
-        promise = 22;
+        about("promise 22");
         NoteGate g = gate(0);
         g.house(0, true, 0);
         g.house(0, false, 0);
@@ -1186,7 +1133,7 @@ public final class PromisesTest {
     }
 
     private static void promise23Longest() {
-        promise = 23;
+        about("promise 23");
         NoteGate g = gate(0);
         g.house(0, false, 2);
         g.house(-5, false, 0);
@@ -1233,7 +1180,7 @@ public final class PromisesTest {
     }
 
     private static void promise24Note() {
-        promise = 24;
+        about("promise 24");
         NoteGate g = gate(1);
         g.tick(2);
         g.prove(2);
@@ -1252,7 +1199,7 @@ public final class PromisesTest {
     }
 
     private static void promise25Letter() {
-        promise = 25;
+        about("promise 25");
         NoteGate g = gate(2);
         g.tick(3);
         g.ask(1, 1, 9);
@@ -1266,7 +1213,7 @@ public final class PromisesTest {
     }
 
     private static void promise26Family() {
-        promise = 26;
+        about("promise 26");
         NoteGate g = gate(1);
         get(g, 3, 0, 1);
         due("person", g.family(0, 0), 3);
@@ -1281,7 +1228,7 @@ public final class PromisesTest {
     }
 
     private static void promise27HouseOf() {
-        promise = 27;
+        about("promise 27");
         NoteGate g = gate(0);
         g.house(0, false, 0);
         g.tick(2);
@@ -1309,7 +1256,7 @@ public final class PromisesTest {
     }
 
     private static void promise28Browser() {
-        promise = 28;
+        about("promise 28");
         NoteGate g = new NoteGate();
         g.house(0, false, 0);
         g.tick(5);
@@ -1332,7 +1279,7 @@ public final class PromisesTest {
     }
 
     private static void promise29Log() {
-        promise = 29;
+        about("promise 29");
         NoteGate g = gate(2);
         int x = get(g, 0, 0, 4);
         shown(g, 0, 1, x, 6);
@@ -1364,7 +1311,7 @@ public final class PromisesTest {
     }
 
     private static void promise30Where() {
-        promise = 30;
+        about("promise 30");
         NoteGate g = gate(2);
         due("no such person", g.where(-1, 0), -2);
         due("no such person", g.where(5, 0), -2);
@@ -1393,7 +1340,7 @@ public final class PromisesTest {
     }
 
     private static void promise31Count() {
-        promise = 31;
+        about("promise 31");
         NoteGate g = gate(2);
         g.tick(3);
         g.tap(6);
@@ -1419,7 +1366,7 @@ public final class PromisesTest {
     }
 
     private static void promise32Row() {
-        promise = 32;
+        about("promise 32");
         NoteGate g = new NoteGate();
         due("slot", g.row(-1, 0, 1), -2);
         due("slot", g.row(4, 0, 1), -2);
@@ -1450,7 +1397,7 @@ public final class PromisesTest {
     }
 
     private static void promise33Tear() {
-        promise = 33;
+        about("promise 33");
         NoteGate g = new NoteGate();
         no("none such", g.tear(-1));
         no("none such", g.tear(4));
@@ -1463,7 +1410,7 @@ public final class PromisesTest {
     }
 
     private static void promise34Write() {
-        promise = 34;
+        about("promise 34");
         NoteGate g = new NoteGate();
         g.house(0, false, 0);
         due("slot", g.write(-1, 0, 0L), -2);
@@ -1494,7 +1441,7 @@ public final class PromisesTest {
     }
 
     private static void promise35Paste() {
-        promise = 35;
+        about("promise 35");
         NoteGate g = new NoteGate();
         g.row(0, 2, 4);
         g.row(1, 2, 6);
@@ -1527,15 +1474,8 @@ public final class PromisesTest {
         due("the source is as it was", g.count(0), 12);
     }
 
-    private static void fill(NoteGate g, int slot, int width, long... numbers) {
-        g.row(slot, width, numbers.length);
-        for (int i = 0; i < numbers.length; i++) {
-            g.write(slot, i, numbers[i]);
-        }
-    }
-
     private static void promise36Script() {
-        promise = 36;
+        about("promise 36");
         NoteGate g = gate(2);
         due("slot", g.script(-1), -2);
         due("slot", g.script(4), -2);
@@ -1570,7 +1510,7 @@ public final class PromisesTest {
     }
 
     private static void promise36NumbersInTheirPlaces() {
-        promise = 36;
+        about("promise 36");
         NoteGate g = gate(4);
         get(g, 0, 0, 1);
         get(g, 0, 0, 1);
@@ -1605,14 +1545,8 @@ public final class PromisesTest {
         due("deliver", g.letter(1, 1), 0);
     }
 
-    private static void told(NoteGate g, int letter, int[] want) {
-        for (int what = 0; what < want.length; what++) {
-            due("letter(" + letter + ", " + what + ")", g.letter(letter, what), want[what]);
-        }
-    }
-
     private static void promise37Why() {
-        promise = 37;
+        about("promise 37");
         NoteGate g = gate(1);
         due("ahead of any", g.why(), NONE);
         g.script(0);
