@@ -359,6 +359,7 @@ public final class JudgeEdgesTest extends Answers {
 
     private static void rows() {
         atMostSix();
+        inOrder();
         leastNumbers();
         shortest();
     }
@@ -377,6 +378,21 @@ public final class JudgeEdgesTest extends Answers {
                 due("its last", g.found(need - 1), n < need ? NONE : 100);
             }
         }
+    }
+
+    private static void inOrder() {
+        term("They are gone through by how many MOVES lead to them, then in the order in which they were come to, of each the MOVES "
+            + "by their numbers");
+        NoteGate g = gate(0);
+        g.house(-3, false, 0);
+        g.tap(1);
+        int x = get(g, 0, 0, 1);
+        g.keeper(false);
+        g.show(0, 0, x, 7);
+        // the first; 0; 600; then 0 600; then of 600: 0, which is alike, and 100
+        judged("behind all that the letter leads to", g, letIn(0, 0, 0, 2), 4, 600, 100);
+        judged("also where there are more moves", g, letIn(0, 0, 0, 6), 4, 600, 100);
+        none("one move", g, letIn(0, 0, 0, 1), 3);
     }
 
     private static void leastNumbers() {
@@ -558,6 +574,20 @@ public final class JudgeEdgesTest extends Answers {
         g.ask(0, 0, 128);
         due("the last right", g.judge(0, 0, 0, 7, 6), 2);
         due("within two", g.judge(0, 0, 0, 7, 2), 2);
+        term("GOAL 0 (a HOUSE, b a person 0 .. 3)");
+        for (int b = -1; b <= 4; b++) {
+            due("person " + b, g.judge(0, 0, b, 7, 0), b < 0 || b > 3 ? -2 : NONE);
+        }
+        for (int a = -1; a <= 4; a++) {
+            due("house " + a, g.judge(0, a, 0, 7, 0), a == 0 ? NONE : -2);
+        }
+        term("GOAL 1 (a a BROWSER 0 .. 3, b 0)");
+        for (int a = -1; a <= 4; a++) {
+            due("browser " + a, g.judge(1, a, 0, 7, 0), a < 0 || a > 3 ? -2 : NONE);
+        }
+        for (int b = -1; b <= 4; b++) {
+            due("b " + b, g.judge(1, 0, b, 7, 0), b == 0 ? NONE : -2);
+        }
         sentence(here, "NONE: there is none");
         due("not within one", g.judge(0, 0, 0, 7, 1), NONE);
         due("another right", g.judge(0, 0, 0, 6, 2), NONE);

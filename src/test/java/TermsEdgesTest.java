@@ -12,6 +12,7 @@ public final class TermsEdgesTest extends Answers {
         lettersCome();
         verdicts();
         ticks();
+        slots();
         end();
     }
 
@@ -412,10 +413,46 @@ public final class TermsEdgesTest extends Answers {
     }
 
     private static void post() {
+        kindsOfLetters();
         twelveLetters();
         oneForward();
         lostOnes();
         goesFirst();
+    }
+
+    private static void kindsOfLetters() {
+        sentence("from whom, to whom, a KIND, x, y, z, the TIME when it was posted");
+        NoteGate g = gate(2);
+        g.tick(1);
+        sentence("0 ASK, from a BROWSER to 9: x HOUSE, y rights, z PAIR");
+        g.ask(3, 1, 6);
+        told(g, 0, 3, 9, 0, 1, 6, 1, 1);
+        sentence("1 GIVE: x NOTE, y REFRESH (NONE), z PAIR (0)");
+        g.deliver(0);
+        told(g, 0, 9, 3, 1, 0, 1, 1, 1);
+        g.deliver(0);
+        sentence("2 SHOW, from a HOLDER to a HOUSE: x NOTE, y right, z 0");
+        g.show(3, 1, 0, 2);
+        told(g, 0, 3, 6, 2, 0, 2, 0, 1);
+        g.deliver(0);
+        g.show(6, 0, 0, 0);
+        told(g, 0, 6, 5, 2, 0, 0, 0, 1);
+        g.lose(0);
+        sentence("3 TURN, from a BROWSER to 9: x REFRESH, y NONE, z PAIR");
+        g.turn(3, 1);
+        told(g, 0, 3, 9, 3, 1, NONE, 2, 1);
+        g.lose(0);
+        sentence("4 HAND, from a HOUSE to 9: x NOTE, y helper, z rights");
+        g.hand(1, 0, 0, 7);
+        told(g, 0, 6, 9, 4, 0, 0, 7, 1);
+        sentence("GIVE of it, y NONE, z 0, to who sent it");
+        g.deliver(0);
+        told(g, 0, 9, 6, 1, 2, NONE, 0, 1);
+        g.lose(0);
+        sentence("5 OVER, from 9 to a HOUSE: x FAMILY, y NONE, z 0");
+        g.end(0);
+        told(g, 0, 9, 5, 5, 0, NONE, 0, 1);
+        told(g, 1, 9, 6, 5, 0, NONE, 0, 1);
     }
 
     private static void twelveLetters() {
@@ -660,6 +697,7 @@ public final class TermsEdgesTest extends Answers {
         numbersForAll();
         askComes();
         turnComes();
+        turnGives();
         turnedTwice();
         handComes();
         handsNarrower();
@@ -785,6 +823,29 @@ public final class TermsEdgesTest extends Answers {
         g.turn(0, x + 1);
         due("ended", g.deliver(1), 0);
         due("no notes", g.count(2), 2);
+    }
+
+    private static void turnGives() {
+        sentence("else x is TURNED, and there come a NOTE (FROM now, TILL LIFE more) and a REFRESH (FROM now, TILL as x), of x's "
+            + "person, HOUSE, rights, FAMILY, PROOF; GIVE of both with z to who sent it");
+        NoteGate g = gate(2);
+        get(g, 1, 0, 1);
+        g.tick(1);
+        g.prove(4);
+        g.tick(1);
+        int x = get(g, 4, 1, 130);
+        g.checks(without(4));
+        g.fake(2, x + 1);
+        g.deliver(0);
+        g.tick(1);
+        g.prove(4);
+        due("browser 2 turns what is the thief's", g.turn(2, x + 1), 3);
+        due("given", g.deliver(0), 1);
+        told(g, 0, 9, 2, 1, 4, 5, 3, 3);
+        noted(g, 4, 0, 4, 1, 130, 3, 23, 1, 1, NONE, 0, 0);
+        noted(g, 5, 1, 4, 1, 130, 3, 202, 1, 1, NONE, 0, 0);
+        due("turned", g.note(x + 1, 9), 1);
+        due("its note is as it was", g.note(x, 9), 0);
     }
 
     private static void turnedTwice() {
@@ -995,6 +1056,7 @@ public final class TermsEdgesTest extends Answers {
         notFresh();
         letIn();
         firstOfThese();
+        countsIfOn();
         logOfSixty();
     }
 
@@ -1227,6 +1289,27 @@ public final class TermsEdgesTest extends Answers {
         due("6 ahead of 7", shown(g, 0, 0, x, 1), 6);
     }
 
+    private static void countsIfOn() {
+        sentence("A CHECK counts if it is on");
+        for (int check = -1; check <= 7; check++) {
+            NoteGate g = gate(0);
+            g.house(0, true, 255);
+            g.terms(10, 200, 0, 100, 3, 100, 0);
+            int x = get(g, 0, 0, 1);
+            shown(g, 0, 0, x, 0);
+            g.end(0);
+            g.deliver(0);
+            g.tick(10);
+            g.checks(check < 0 ? 0 : 1 << check);
+            int[] alone = {0, 5, 8, 6, 0, 0, 0, 10};
+            due("check " + check + " alone", shown(g, 0, 0, x, 0), check < 0 ? 0 : alone[check]);
+            // 9 needs no check: it stands behind 5, 6 and 8, and ahead of 10
+            boolean ahead = check >= 0 && alone[check] > 0 && alone[check] < 9;
+            due("a right that it has not", shown(g, 0, 0, x, 1), ahead ? alone[check] : 9);
+            due("a refresh", shown(g, 0, 0, x + 1, 0), 2);
+        }
+    }
+
     private static void logOfSixty() {
         sentence("THE LOG has the latest 60 of SHOWS that came");
         NoteGate g = gate(1);
@@ -1353,5 +1436,30 @@ public final class TermsEdgesTest extends Answers {
         g.tick(1);
         due("the give came", g.count(4), 0);
         due("a new note has the new time", g.note(2, 4), 2);
+    }
+
+    private static void slots() {
+        sentence("SLOTS 0 .. 3 have rows of numbers of 1, 2, 4 or 8 bytes (WIDTH 0 .. 3), at most 60, or nothing");
+        NoteGate g = new NoteGate();
+        for (int slot = 0; slot <= 3; slot++) {
+            due("nothing", g.write(slot, 0, 1), -5);
+            due("row", g.row(slot, 3 - slot, 60), 0);
+            due("the first", g.write(slot, 0, 1), 0);
+            due("the last", g.write(slot, 59, 1), 0);
+            due("no more", g.write(slot, 60, 1), -6);
+        }
+        due("no slot 4", g.row(4, 0, 1), -2);
+        due("no slot -1", g.row(-1, 0, 1), -2);
+        due("no width 4", g.row(0, 4, 1), -2);
+        due("no width -1", g.row(0, -1, 1), -2);
+        due("no 61 numbers", g.row(0, 0, 61), -2);
+        long[] mostTicks = {127, 500, 500, 500};
+        for (int width = 0; width <= 3; width++) {
+            int bits = 8 << width;
+            fill(g, 0, width, 5, 1L << bits - 1);
+            due("half of " + bits + " bits is below 0", g.script(0), 0);
+            fill(g, 0, width, 5, mostTicks[width]);
+            due("below it is not", g.script(0), 1);
+        }
     }
 }
