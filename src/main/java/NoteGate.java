@@ -678,7 +678,6 @@ public final class NoteGate {
         final int[] w = new int[WORDS];
         final Setting setting;
         final Diary diary;
-        int mark;
 
         World(Setting setting, Diary diary) {
             this.setting = setting;
@@ -1130,18 +1129,17 @@ public final class NoteGate {
             if (used >= 0 && used <= WORDS) {
                 System.arraycopy(other.w, 0, w, 0, used);
             }
-            mark = other.mark;
         }
 
-        /** A number that alike states share; of notes it takes only what can change, as there are many of them. */
-        void setMark() {
+        /** A number that alike states share; unlike ones may, too. Of the many notes it takes only what changes. */
+        int mark() {
             int h = mixed(1, 0, FAMILY_AT + w[FAMILY_COUNT] * FAMILY_WORDS);
             h = mixed(h, LETTER_AT, LETTER_AT + w[LETTER_COUNT] * LETTER_WORDS);
             for (int x = 0; x < w[NOTE_COUNT] && x < MOST_NOTES; x++) {
                 int at = NOTE_AT + x * NOTE_WORDS;
                 h = h * 31 + (w[at + HAVE] << 1 | w[at + TURNED]);
             }
-            mark = h ^ h >>> 15;
+            return h ^ h >>> 15;
         }
 
         private int mixed(int start, int from, int to) {
@@ -1154,8 +1152,7 @@ public final class NoteGate {
 
         /** The counts stand within the first part, so that the other parts are of one length if it is alike. */
         boolean isLike(World other) {
-            return mark == other.mark
-                && sameWords(other, 0, FAMILY_AT + w[FAMILY_COUNT] * FAMILY_WORDS)
+            return sameWords(other, 0, FAMILY_AT + w[FAMILY_COUNT] * FAMILY_WORDS)
                 && sameWords(other, LETTER_AT, LETTER_AT + w[LETTER_COUNT] * LETTER_WORDS)
                 && sameWords(other, NOTE_AT, NOTE_AT + w[NOTE_COUNT] * NOTE_WORDS);
         }
@@ -1392,8 +1389,7 @@ public final class NoteGate {
         }
 
         private int keepIfNew(int s, int move) {
-            trial.setMark();
-            int chain = trial.mark & CHAINS - 1;
+            int chain = trial.mark() & CHAINS - 1;
             int k = chains[chain];
             for (int i = 0; i < MOST_STATES && k >= 0 && k < MOST_STATES; i++) {
                 if (seen[k] != null && trial.isLike(seen[k])) {

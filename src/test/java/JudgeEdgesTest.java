@@ -440,6 +440,7 @@ public final class JudgeEdgesTest extends Answers {
 
     private static void states() {
         alikeStates();
+        unlikeOfOneMark();
         alikeButWhatIsLost();
         apart();
         threeHundred();
@@ -470,6 +471,20 @@ public final class JudgeEdgesTest extends Answers {
         none("let in: the house has it", g, letIn(0, 1, 0, 1), 3);
         shown(g, 4, 0, 0, 0);
         none("let in already", g, letIn(0, 1, 0, 1), 2);
+    }
+
+    /** Marks are sums by powers of 31: one right less and a pair that is 31 more give the same, but the letters are two. */
+    private static void unlikeOfOneMark() {
+        term("STATES are alike if all that I to III tell of is (but THE LOG, what was LOST, and SLOTS)");
+        NoteGate g = gate(1);
+        g.keeper(false);
+        g.ask(0, 0, 2);
+        for (int i = 0; i < 30; i++) {
+            g.ask(1, 0, 1);
+            g.lose(1);
+        }
+        due("31 pairs later", g.ask(0, 0, 1), 32);
+        none("either of two letters stays", g, letIn(0, 1, 0, 1), 4);
     }
 
     private static void alikeButWhatIsLost() {
